@@ -45,6 +45,11 @@ public final class Promise8SoundTest {
         Due.is("sound() of none, not in the past", z.sound(), 7);
         z.read(0, 0, -1);
         Due.is("sound() of none, in the past", z.sound(), 0);
+        z.write(2, 1);
+        z.read(2, 1, 3);
+        Due.is("sound() with sound operations after a wrong one", z.sound(), 0);
+        z.back();
+        z.back();
         z.back();
         z.read(1, 0, 0);
         z.read(1, 0, -1);
@@ -60,6 +65,17 @@ public final class Promise8SoundTest {
         Due.is("sound() half a circle", c.sound(), 7);
         c.read(1, 0, 0);
         Due.is("sound() a circle", c.sound(), 3);
+
+        // The one order of the writes is 2, 1, 0.
+        CausalCheck d = new CausalCheck();
+        d.write(0, 0);
+        d.write(1, 0);
+        d.write(2, 0);
+        d.read(1, 0, 0);
+        d.read(2, 0, 1);
+        Due.is("sound() with the writes in falling order", d.sound(), 7);
+        d.read(0, 0, 2);
+        Due.is("sound() with the writes in a ring", d.sound(), 3);
         Due.end();
     }
 }
