@@ -1,14 +1,20 @@
 /** Counts and prints the answers that are not the ones that are due. */
 final class Due {
     private static int wrong = 0;
+    private static String sentence = "";
 
     private Due() {
+    }
+
+    /** Names the sentence of the document that the following answers are held against. */
+    static void by(String where, String words) {
+        sentence = where + ", \"" + words + "\": ";
     }
 
     static void is(String call, long got, long want) {
         if (got != want) {
             wrong++;
-            System.out.println(call + " answered " + got + ", due is " + want);
+            System.out.println(sentence + call + " answered " + got + ", due is " + want);
         }
     }
 
@@ -19,7 +25,7 @@ final class Due {
         }
     }
 
-    /** All that can be asked of an object, so that two states can be told apart. */
+    /** All that can be asked of an object in 70 calls, so that two states can be told apart. */
     static String view(CausalCheck x) {
         StringBuilder seen = new StringBuilder();
         for (int a = 0; a < 7; a++) {
@@ -40,7 +46,7 @@ final class Due {
     static void same(String what, String got, String want) {
         if (!got.equals(want)) {
             wrong++;
-            System.out.println(what + " left " + got + ", due is " + want);
+            System.out.println(sentence + what + " left " + got + ", due is " + want);
         }
     }
 }
