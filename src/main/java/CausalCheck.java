@@ -237,7 +237,7 @@ public final class CausalCheck {
     private int writesInPast(int reader) {
         int seen = 0;
         for (int write = 0; write < reader; write++) {
-            if (isWriteAbout(write, cellOf[reader]) && contains(past[reader], write)) {
+            if (isWrite[write] && cellOf[write] == cellOf[reader] && contains(past[reader], write)) {
                 seen |= 1 << write;
             }
         }
