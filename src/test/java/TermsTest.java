@@ -150,6 +150,12 @@ public final class TermsTest {
         CausalCheck throughCell = made(w(0, 0), w(0, 1), r(1, 1, 1), w(1, 0), r(2, 0, 3), r(2, 0, 0));
         Due.is("weak(5), an order through the other cell", throughCell.weak(5), 0);
         Due.is("sound(), an order through the other cell", throughCell.sound(), 0);
+        // No read sees both writes 0 and 2 but the last one: only the order keeps them from turning round.
+        CausalCheck unseen = made(w(0, 0), r(1, 0, 0), w(1, 0), w(1, 1), r(2, 1, 3));
+        Due.is("sound() before the read", unseen.sound(), 7);
+        Due.is("choices(2, 0), an order that no read tells", unseen.choices(2, 0), 4);
+        unseen.read(2, 0, 0);
+        Due.is("sound(), an order that no read tells", unseen.sound(), 0);
     }
 
     private static void aRowIsFreeWhereThereIsNoOrder() {
